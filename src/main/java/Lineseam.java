@@ -384,11 +384,11 @@ public final class Lineseam {
             case 0:
                 return patch.froms.at(hunk);
             case 1:
-                return patch.olds(hunk);
+                return patch.olds.at(hunk);
             case 2:
                 return patch.tos.at(hunk);
             case 3:
-                return patch.news(hunk);
+                return patch.news.at(hunk);
             case 4:
                 return patch.end(hunk) - patch.start(hunk);
             default:
@@ -730,16 +730,13 @@ public final class Lineseam {
             return false;
         }
         trial.take(script, first, second, 1);
-        if (!isLaid(first, second)) {
+        laying.run(trial, first, 0);
+        if (!laying.hasMade(second)) {
             return false;
         }
         trial.turnOver();
-        return isLaid(second, first);
-    }
-
-    private boolean isLaid(Row from, Row to) {
-        laying.run(trial, from, 0);
-        return laying.refused.hunks() == 0 && laying.work.isSame(to);
+        laying.run(trial, second, 0);
+        return laying.hasMade(first);
     }
 
     private boolean areJoinsSound() {
@@ -887,21 +884,27 @@ public final class Lineseam {
             if (index < 0 || index > size || size >= items.length) {
                 return;
             }
-            push(item);
-            for (int k = size - 1; k > index; k--) {
-                set(k, at(k - 1));
+            for (int k = size; k > index; k--) {
+                items[k] = items[k - 1];
             }
-            set(index, item);
+            items[index] = item;
+            size++;
         }
 
         void removeRun(int from, int to) {
-            if (from < 0 || to > size || from > to) {
+            if (from < 0 || to > size || from > to || size > items.length) {
                 return;
             }
             for (int k = to; k < size; k++) {
-                set(k - to + from, at(k));
+                items[k - to + from] = items[k];
             }
             size -= to - from;
+        }
+
+        void raiseLast() {
+            if (size > 0 && size <= items.length) {
+                items[size - 1]++;
+            }
         }
 
         void shorten(int length) {
@@ -915,8 +918,8 @@ public final class Lineseam {
         }
 
         void append(Row other, int from, int to) {
-            for (int k = Math.max(from, 0); k < to && k < other.size; k++) {
-                if (k < other.items.length && size >= 0 && size < items.length) {
+            for (int k = from; k < to && k < other.size; k++) {
+                if (k >= 0 && k < other.items.length && size >= 0 && size < items.length) {
                     items[size] = other.items[k];
                     size++;
                 }
@@ -1288,7 +1291,9 @@ public final class Lineseam {
         private static final int ROOM = 2 * MOST_LINES;
 
         private final Row froms = new Row(ROOM);
+        private final Row olds = new Row(ROOM);
         private final Row tos = new Row(ROOM);
+        private final Row news = new Row(ROOM);
         private final Row starts = new Row(ROOM);
         private final Row kinds = new Row(ROOM);
         private final Row marked = new Row(ROOM);
@@ -1305,27 +1310,11 @@ public final class Lineseam {
             return hunk + 1 < starts.size() ? starts.at(hunk + 1) : kinds.size();
         }
 
-        int olds(int hunk) {
-            return countOther(hunk, IN);
-        }
-
-        int news(int hunk) {
-            return countOther(hunk, OUT);
-        }
-
-        private int countOther(int hunk, int kind) {
-            int count = 0;
-            for (int step = start(hunk); step < end(hunk); step++) {
-                if (kinds.at(step) != kind) {
-                    count++;
-                }
-            }
-            return count;
-        }
-
         void clear() {
             froms.clear();
+            olds.clear();
             tos.clear();
+            news.clear();
             starts.clear();
             kinds.clear();
             marked.clear();
@@ -1333,28 +1322,41 @@ public final class Lineseam {
 
         void open(int from, int to) {
             froms.push(from);
+            olds.push(0);
             tos.push(to);
+            news.push(0);
             starts.push(kinds.size());
         }
 
         void mark(int kind, int line) {
             kinds.push(kind);
             marked.push(line);
+            if (kind != IN) {
+                olds.raiseLast();
+            }
+            if (kind != OUT) {
+                news.raiseLast();
+            }
         }
 
         void become(Patch other) {
             froms.become(other.froms);
+            olds.become(other.olds);
             tos.become(other.tos);
+            news.become(other.news);
             starts.become(other.starts);
             kinds.become(other.kinds);
             marked.become(other.marked);
         }
 
         void takeHunk(Patch other, int hunk) {
-            open(other.froms.at(hunk), other.tos.at(hunk));
-            for (int step = other.start(hunk); step < other.end(hunk); step++) {
-                mark(other.kinds.at(step), other.marked.at(step));
-            }
+            froms.push(other.froms.at(hunk));
+            olds.push(other.olds.at(hunk));
+            tos.push(other.tos.at(hunk));
+            news.push(other.news.at(hunk));
+            starts.push(kinds.size());
+            kinds.append(other.kinds, other.start(hunk), other.end(hunk));
+            marked.append(other.marked, other.start(hunk), other.end(hunk));
         }
 
         /** Becomes the HUNKS of two rows, whose SCRIPT is told. */
@@ -1389,16 +1391,21 @@ public final class Lineseam {
         }
 
         void turnOver() {
-            for (int hunk = 0; hunk < hunks(); hunk++) {
-                int from = froms.at(hunk);
-                froms.set(hunk, tos.at(hunk));
-                tos.set(hunk, from);
-            }
+            exchange(froms, tos);
+            exchange(olds, news);
             for (int step = 0; step < kinds.size(); step++) {
                 int kind = kinds.at(step);
                 if (kind != STAY) {
                     kinds.set(step, kind == OUT ? IN : OUT);
                 }
+            }
+        }
+
+        private static void exchange(Row one, Row other) {
+            for (int hunk = 0; hunk < one.size(); hunk++) {
+                int was = one.at(hunk);
+                one.set(hunk, other.at(hunk));
+                other.set(hunk, was);
             }
         }
     }
@@ -1434,11 +1441,11 @@ public final class Lineseam {
                 letters.push('@');
                 pushNumber(patch.froms.at(hunk));
                 letters.push(',');
-                pushNumber(patch.olds(hunk));
+                pushNumber(patch.olds.at(hunk));
                 letters.push(',');
                 pushNumber(patch.tos.at(hunk));
                 letters.push(',');
-                pushNumber(patch.news(hunk));
+                pushNumber(patch.news.at(hunk));
                 text.push(lines.idOf(letters));
                 for (int step = patch.start(hunk); step < patch.end(hunk); step++) {
                     text.push(lines.idOfMarked(letter(MARKS, patch.kinds.at(step)), patch.marked.at(step)));
@@ -1556,11 +1563,17 @@ public final class Lineseam {
                 if (place == NONE) {
                     refused.takeHunk(patch, hunk);
                 } else {
-                    replace(patch, patch.olds(hunk), place);
-                    shift = place - from + patch.news(hunk) - patch.olds(hunk);
-                    low = place + patch.news(hunk);
+                    int olds = patch.olds.at(hunk);
+                    int news = patch.news.at(hunk);
+                    replace(patch, olds, place);
+                    shift = place - from + news - olds;
+                    low = place + news;
                 }
             }
+        }
+
+        boolean hasMade(Row text) {
+            return refused.hunks() == 0 && work.isSame(text);
         }
 
         private int findPlace(Patch patch, int due, int give) {
