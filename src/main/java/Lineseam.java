@@ -1487,19 +1487,16 @@ public final class Lineseam {
             return olds == 0 && news == 0 ? NONE : text.size();
         }
 
-        /** Takes a TEXT without FAULT as a PATCH. */
+        /** Takes a TEXT without FAULT as a PATCH: there no MARKED LINE has the looks of a HEAD. */
         void parse(Row text, Lines lines, Patch patch) {
             patch.clear();
-            int due = 0;
             for (int place = 0; place < text.size(); place++) {
                 int line = text.at(place);
-                if (due <= 0 && isHead(line, lines)) {
+                if (isHead(line, lines)) {
                     patch.open(head.at(FROM), head.at(TO));
-                    due = head.at(OLDS) + head.at(NEWS);
                 } else {
                     int kind = MARKS.indexOf((char) lines.signAt(line, 0));
                     patch.mark(kind, lines.idOfUnmarked(line));
-                    due -= kind == STAY ? 2 : 1;
                 }
             }
         }

@@ -30,7 +30,10 @@ public final class ModelTest {
         seed = 88172645463325252L + run * 7919L;
         real = new Lineseam();
         model = new Model();
-        int style = run % 6;
+        int style = run % 8;
+        if (style > 5) {
+            fillUp();
+        }
         for (int call = 0; call < CALLS; call++) {
             if (!isCallRight(style)) {
                 System.out.println("run " + run + ", call " + call);
@@ -41,6 +44,27 @@ public final class ModelTest {
             }
         }
         return true;
+    }
+
+    /** TEXTS with some 30 LINES, alike in most of them, so that scripts, moves and joins have much to do. */
+    private void fillUp() {
+        int letters = 4 + below(23);
+        for (int place = 0; place < 26 + below(5); place++) {
+            int p = place;
+            int word = below(letters);
+            same("add(0, " + p + ", " + word + ")", () -> real.add(0, p, word), () -> model.add(0, p, word));
+        }
+        for (int text = 1; text < 4; text++) {
+            int t = text;
+            same("copy(" + t + ", 0)", () -> real.copy(t, 0), () -> model.copy(t, 0));
+            for (int k = 0; k < 4; k++) {
+                int from = below(20);
+                int to = from + below(6);
+                same("carry(" + t + ", " + from + ", " + to + ")",
+                        () -> real.carry(t, from, to), () -> model.carry(t, from, to));
+                same("change(" + t + ", " + from + ")", () -> real.change(t, from), () -> model.change(t, from));
+            }
+        }
     }
 
     private int below(int bound) {
@@ -152,7 +176,7 @@ public final class ModelTest {
         }
     }
 
-    /** Which calls are made how often: the styles dwell on typing, patches, joins, versions or the cursor. */
+    /** Which calls are made how often: the styles dwell on typing, patches, joins, versions, the cursor.. */
     private int pick(int style) {
         int[][] dwelt = {
             {0, 0, 1, 2, 2, 3, 4, 5, 6, 9, 9},
@@ -161,6 +185,8 @@ public final class ModelTest {
             {2, 2, 2, 4, 6, 21, 22, 22},
             {2, 4, 8, 8, 8, 8, 8, 5},
             {0, 0, 1, 2, 2, 4, 5, 10, 12, 12, 13, 13, 14, 15, 11, 17},
+            {3, 4, 2, 4, 2, 5, 6, 6, 10, 15, 11, 16, 17, 9, 9},
+            {3, 4, 2, 4, 2, 5, 6, 6, 18, 18, 19, 20, 21, 22, 24},
         };
         return below(3) == 0 ? below(25) : dwelt[style][below(dwelt[style].length)];
     }
