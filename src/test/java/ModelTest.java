@@ -302,10 +302,12 @@ public final class ModelTest {
         }
     }
 
-    /** Only what the class itself throws counts: the machine's own exceptions are of classes below these. */
+    /** Only what the two classes throw themselves counts, not what the machine or the library throws in them. */
     private static boolean thrownHere(RuntimeException e) {
         Class<?> kind = e.getClass();
-        return kind == IndexOutOfBoundsException.class || kind == IllegalArgumentException.class
-                || kind == IllegalStateException.class;
+        String at = e.getStackTrace().length > 0 ? e.getStackTrace()[0].getClassName() : "";
+        return (at.startsWith("Lineseam") || at.startsWith("Model"))
+                && (kind == IndexOutOfBoundsException.class || kind == IllegalArgumentException.class
+                || kind == IllegalStateException.class);
     }
 }
