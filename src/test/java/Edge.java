@@ -252,7 +252,11 @@ final class Edge {
     private static String hunks(Lineseam x) {
         StringBuilder all = new StringBuilder();
         for (int h = 0; h < x.house(5); h++) {
-            all.append(" @").append(x.ofHunk(h, 0)).append(',').append(x.ofHunk(h, 2)).append(x.hunk(h));
+            all.append(' ');
+            for (int what = 0; what < 5; what++) {
+                all.append(x.ofHunk(h, what)).append(',');
+            }
+            all.append(x.hunk(h));
         }
         return all.toString();
     }

@@ -136,7 +136,12 @@ public final class JoinEdgeTest {
             return x.wouldJoin(1, 1, 1) + " " + x.house(7) + ": " + told(x, 0) + " / " + told(x, 1);
         });
 
-        Edge.of("4 QUARRELS are numbered from 0, up to 15 of them");
+        Edge.of("4 QUARRELS are numbered from 0, up to 18 of them");
+        Edge.let("18: 0 0 1 1 1 / 2 1 0 1 0 / 28 1 1 0 1", JoinEdgeTest::eighteen, x -> x.join(3, 0, 1, 2, 0) + ": "
+                + told(x, 0) + " / " + told(x, 1) + " / " + told(x, 17));
+        Edge.unchanged(18, JoinEdgeTest::eighteen, x -> x.wouldJoin(0, 1, 2));
+
+        Edge.of("4 QUARRELS of ROWS without a LINE of the COMMON one, 15 of them");
         Lineseam x = new Lineseam();
         for (int k = 0; k < 15; k++) {
             x.add(0, k, k);
@@ -153,6 +158,22 @@ public final class JoinEdgeTest {
         Edge.due(15, x.join(3, 0, 1, 2, 2));
         Edge.due("14 0 1 1 0", told(x, 14));
         Edge.due("throws IllegalStateException", Edge.outcome(x, y -> y.join(3, 0, 1, 2, 3)));
+    }
+
+    /** 17 ANCHORS with 18 GAPS, in each of which another of the three ROWS has no LINE. */
+    private static Lineseam eighteen() {
+        Lineseam x = new Lineseam();
+        for (int k = 0; k < 18; k++) {
+            for (int t = 0; t < 3; t++) {
+                if (k % 3 != t) {
+                    x.add(t, x.house(t), 23 + t);
+                }
+                if (k < 17) {
+                    x.add(t, x.house(t), k);
+                }
+            }
+        }
+        return x;
     }
 
     // ---- promises 35 to 37

@@ -78,10 +78,18 @@ public final class LinesEdgeTest {
         return x;
     }
 
+    /** The TEXT 0 has 30 LINES, the last of them like no other one. */
+    private static Lineseam thirty() {
+        Lineseam x = new Lineseam();
+        Edge.words(x, 0, 29);
+        x.put(0, 29);
+        return x;
+    }
+
     /** The LINE of the TEXT 0 gets "+" ahead till it has so many signs; the TEXTS 1 and 3 are empty behind it. */
     private static void grow(Lineseam x, int signs) {
         x.cut(3, 0, x.house(3));
-        while (x.ofLine(0, 0, 3) < signs) {
+        for (int k = x.ofLine(0, 0, 3); k < signs; k++) {
             x.patch(3, 0, 0);
             x.write(1);
             x.cut(1, 0, 1);
@@ -125,6 +133,17 @@ public final class LinesEdgeTest {
         Edge.let(2, () -> reading("@0,0,0,1|+g"), x -> x.add(2, 0, 0));
         Edge.let("1 2", () -> reading("@0,0,0,1|+g"), x -> x.lay(3, 0) + " " + x.ofLine(3, 0, 0));
 
+        Edge.of("1 a NUMBER at which it first comes into a TEXT: at once, whichever call brings it");
+        Edge.let("0 1", Edge::empty, x -> x.put(3, 0) + " " + x.house(4));
+        Edge.let("0 1", Edge::empty, x -> x.add(3, 0, 5) + " " + x.house(4));
+        Edge.let("0 2 1", () -> Edge.with("a"), x -> x.change(0, 0) + " " + x.house(4) + " " + x.ofLine(0, 0, 0));
+        Edge.let("0 0 2 1", () -> walking("a"), x -> x.forth() + " " + x.mend(1) + " " + x.house(4) + " "
+                + x.ofLine(0, 0, 0));
+        Edge.let("0 2 1", () -> walking("a"), x -> x.slip(1) + " " + x.house(4) + " " + x.ofLine(0, 0, 0));
+        Edge.let("1 2 3 1 2", () -> Edge.with("a"), x -> x.patch(0, 1, 0) + " " + x.write(2) + " " + x.house(4) + " "
+                + x.ofLine(2, 0, 0) + " " + x.ofLine(2, 1, 0));
+        Edge.let("1 3 2", () -> reading("@0,0,0,1|+g"), x -> x.lay(2, 0) + " " + x.house(4) + " " + x.ofLine(2, 0, 0));
+
         Edge.of("1 equal LINES have the same NUMBER, also a WORD and a DRAFT, and in other TEXTS");
         Edge.let(0, () -> Edge.type(Edge.with("a"), "a"), x -> x.put(3, 0));
         Edge.let(0, () -> Edge.type(Edge.with("a"), "a"), x -> x.add(0, 1, 0));
@@ -161,6 +180,13 @@ public final class LinesEdgeTest {
         Edge.of("1 a LINE that a refused call would have brought has no NUMBER");
         Edge.let("throws IllegalStateException 26 26", Edge::full,
                 x -> Edge.outcome(x, y -> y.put(0, 0)) + " " + x.house(4) + " " + x.put(1, 0));
+    }
+
+    /** The CURSOR is ahead of these LINES of the TEXT 0. */
+    private static Lineseam walking(String rows) {
+        Lineseam x = Edge.with(rows);
+        x.walk(0);
+        return x;
     }
 
     /** The TEXT 0 has these LINES, and was read. */
@@ -468,6 +494,9 @@ public final class LinesEdgeTest {
 
         Edge.of("P12 the first PLACE and the last one with an equal LINE: itself, if it is the only one");
         Edge.let("1 1", () -> Edge.with("a|b|a"), x -> x.ofLine(0, 1, 1) + " " + x.ofLine(0, 1, 2));
+        Edge.let("0 0", () -> Edge.with("b|a|a"), x -> x.ofLine(0, 0, 1) + " " + x.ofLine(0, 0, 2));
+        Edge.let("2 2", () -> Edge.with("a|a|b"), x -> x.ofLine(0, 2, 1) + " " + x.ofLine(0, 2, 2));
+        Edge.let("29 29", () -> thirty(), x -> x.ofLine(0, 29, 1) + " " + x.ofLine(0, 29, 2));
 
         Edge.of("P12 the first PLACE and the last one: the ends of the TEXT, from each of them");
         for (int place : new int[] {0, 2, 4}) {

@@ -216,6 +216,12 @@ public final class PatchEdgeTest {
 
         Edge.of("3 four numbers, with ',' between, nothing behind: neither three nor five, none left out");
         fault(0, "@0,1,0|-a");
+        fault(0, "@0,2,0|-a|-a");
+        fault(0, "@0,2,0,|-a|-a");
+        fault(0, "@0,2,0,a|-a|-a");
+        fault(0, "@0,2|-a|-a");
+        fault(0, "@2|-a|-a");
+        fault(0, "@2,|-a|-a");
         fault(0, "@0,1,0,0,|-a");
         fault(0, "@0,1,0,0,0|-a");
         fault(0, "@0,1,0,|-a");
@@ -272,6 +278,8 @@ public final class PatchEdgeTest {
         fault(0, "@0,1,00,1| a");
         fault(0, "@1,1,01,1| a");
         fault(0, "@0,1,0,01| a");
+        fault(0, "@09,1,9,1| a");
+        fault(0, "@0,1,0,09|-a");
         fault(0, "@010,1,10,1| a");
         fault(0, "@000,1,0,1| a");
         fault(0, "@0,1,0,00|-a");
@@ -838,6 +846,12 @@ public final class PatchEdgeTest {
 
         Edge.of("P32 they keep FROM and TO, and are numbered from 0: what is written may have a FAULT");
         Edge.let("1 3 3 -d|+y", Edge::busy, x -> x.again() + " " + told(x));
+        Edge.let("2: 0 1 0 0 1 / 3 0 2 2 2", () -> Edge.with("a|b|c", "b|c|d|e", "f"), x -> {
+            x.patch(0, 1, 0);
+            x.lay(2, 0);
+            x.patch(2, 1, 0);
+            return x.again() + ": " + numbers(x, 0) + " / " + numbers(x, 1);
+        });
         Edge.let("3 @2,1,3,1|-c|+d 0", () -> {
             Lineseam x = Edge.with("a|b|c", "n|a|b|d", "z");
             x.patch(0, 1, 0);
@@ -845,6 +859,11 @@ public final class PatchEdgeTest {
             x.again();
             return x;
         }, x -> x.write(3) + " " + x.whole(3) + " " + x.fault(3));
+    }
+
+    private static String numbers(Lineseam x, int hunk) {
+        return x.ofHunk(hunk, 0) + " " + x.ofHunk(hunk, 1) + " " + x.ofHunk(hunk, 2) + " " + x.ofHunk(hunk, 3) + " "
+                + x.ofHunk(hunk, 4);
     }
 
     private static void ofHunk() {

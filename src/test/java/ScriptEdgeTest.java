@@ -251,6 +251,8 @@ public final class ScriptEdgeTest {
         Edge.of("2 its LINES are in no other BLOCK any more");
         moves("0 3 1", "a|x|y|z", "x|y|z|a|a");
         moves("0 3 1", "a|a|x|y|z", "x|y|z|a");
+        moves("1 4 2", "b|a|b|w|x|y|z", "w|x|y|z|a|b");
+        moves("0 5 2", "a|b|w|x|y|z", "w|x|y|z|b|a|b");
         moves("0 6 2 / 2 10 1", "a|b|c|v|w|x|y|z|u", "v|w|x|y|z|u|a|b|q|b|c");
 
         Edge.of("2 and part those around them");
@@ -326,6 +328,10 @@ public final class ScriptEdgeTest {
         Edge.bounds(Edge.INDEX, Edge::busy, 0, "=", 5, "-+", p -> x -> x.within(0, 0, 2, p));
         Edge.bounds(Edge.INDEX, Edge::full, 0, "=", 29, "-+", p -> x -> x.within(0, 0, 0, p));
         Edge.refused(Edge.INDEX, Edge::full, x -> x.within(0, 0, 1, 0));
+
+        Edge.of("P23 one call behind the other: none has signs of the one ahead");
+        Edge.let("===++ - ==", two("abc|a", "abcde||ac"), x -> x.within(0, 0, 1, 0) + " " + x.within(0, 1, 1, 1) + " "
+                + x.within(1, 2, 1, 2));
 
         Edge.of("P23 the PLACE is one of its own TEXT, not of the other one");
         Edge.refused(Edge.INDEX, Edge::busy, x -> x.within(0, 5, 2, 5));
