@@ -377,6 +377,12 @@ public final class VersionEdgeTest {
         Edge.of("P45 of an object that is full");
         Edge.unchanged(sum(Edge.full()).longValue(), Edge::full, x -> x.digest());
 
+        Edge.of("P45 LOOSE of 0, not EXACT: of TEXTS that are only LIKE LOOSELY; and moves() of TEXTS that have some");
+        Supplier<Lineseam> alike = () -> Edge.with("a b| |c", "ab||c ", "c|ab|a b", " c|a b|b");
+        Edge.due("0 3", alike.get().ofScript(0, 1, false, 0) + " " + alike.get().ofScript(0, 1, true, 0));
+        Edge.due(1, alike.get().moves(0, 2));
+        Edge.unchanged(sum(alike.get()).longValue(), alike, x -> x.digest());
+
         Edge.of("P45 NONE is -1 also in it: without a CURSOR, and with a PATCH TEXT that has no FAULT");
         Edge.let(sum(Edge.with("@0,0,0,1|+")).longValue(), () -> Edge.with("@0,0,0,1|+"), x -> x.digest());
 
